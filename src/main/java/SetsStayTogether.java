@@ -6,6 +6,8 @@ public final class SetsStayTogether {
 
     private static final int NOT_SO = -2;
     private static final int TOO_MANY = -3;
+    private static final int TOO_MUCH = -3;
+    private static final int MISSING = -3;
     private static final int NO_AIM = -4;
     private static final int PARTED = -5;
 
@@ -29,7 +31,7 @@ public final class SetsStayTogether {
     private final Text text = new Text();
     private final Reader reader = new Reader(text);
     private final HouseReader lines = new HouseReader(reader);
-    private final Numbers told = new Numbers();
+    private final Numbers answer = new Numbers();
     private final House home = new House();
     private final House draft = new House();
     private final Rule law = new Rule();
@@ -156,7 +158,7 @@ public final class SetsStayTogether {
         }
         if (kind == 3) {
             home.weigh(2, 0, 0, 0);
-            return TOO_MANY;
+            return MISSING;
         }
         return n < 0 ? NOT_SO : home.weigh(kind, n, f, step);
     }
@@ -174,9 +176,9 @@ public final class SetsStayTogether {
     public int evening() {
         int parted = home.parted(home.where);
         int full = home.overfull(home.where);
-        told.start();
-        told.tell(parted);
-        told.tell(full);
+        answer.start();
+        answer.tell(parted);
+        answer.tell(full);
         return (parted | full) == 0 ? sleep() : 0;
     }
 
@@ -199,9 +201,9 @@ public final class SetsStayTogether {
         }
         text.cut(0);
         int night = done < many ? NONE : home.lawful(home.where) ? sleep() : 0;
-        told.start();
-        told.tell(night);
-        told.tell(sum);
+        answer.start();
+        answer.tell(night);
+        answer.tell(sum);
         return done;
     }
 
@@ -235,18 +237,18 @@ public final class SetsStayTogether {
                 sum += cost;
             }
         }
-        this.told.start();
-        this.told.tell(sum);
-        this.told.tell(home.lawful(spare) ? 1 : 0);
+        answer.start();
+        answer.tell(sum);
+        answer.tell(home.lawful(spare) ? 1 : 0);
         return failed;
     }
 
     // ---- sets and clumps
 
     public int clumps() {
-        told.start();
+        answer.start();
         for (int c = 0; c < home.clumps; c++) {
-            told.tell(home.clumpThings[c]);
+            answer.tell(home.clumpThings[c]);
         }
         return home.clumps;
     }
@@ -262,9 +264,9 @@ public final class SetsStayTogether {
             }
         }
         int bulk = home.clumpBulk(heavy);
-        told.start();
-        told.tell(bulk);
-        told.tell(home.roomsFor(bulk));
+        answer.start();
+        answer.tell(bulk);
+        answer.tell(home.roomsFor(bulk));
         return heavy;
     }
 
@@ -273,8 +275,8 @@ public final class SetsStayTogether {
             return NONE;
         }
         int rest = home.allThings() & ~(1 << thing);
-        told.start();
-        told.tell(home.setsWithNoneOf(rest));
+        answer.start();
+        answer.tell(home.setsWithNoneOf(rest));
         return home.clumpsBy(rest, home.allSets());
     }
 
@@ -305,7 +307,7 @@ public final class SetsStayTogether {
         }
         walk.start(home, home.allClumps());
         walk.choose();
-        told.start();
+        answer.start();
         if (walk.found > 0) {
             tellChosen();
         }
@@ -327,14 +329,14 @@ public final class SetsStayTogether {
         walk.start(home, home.allClumps());
         for (int t = 0; t < home.things; t++) {
             for (int r = 0; r < home.rooms; r++) {
-                walk.count(home.clumpOf[t], r, law.value(home, t, r));
+                walk.add(home.clumpOf[t], r, law.value(home, t, r));
             }
         }
         if (!walk.choose()) {
             return NOT_SO;
         }
-        told.start();
-        told.tell(walk.value);
+        answer.start();
+        answer.tell(walk.value);
         tellChosen();
         return 1;
     }
@@ -358,8 +360,8 @@ public final class SetsStayTogether {
         for (int r = 0; r < home.rooms; r++) {
             if (chooseByBulk(r, 0, -1) && home.size[r] + walk.value > most) {
                 most = home.size[r] + walk.value;
-                told.start();
-                told.tell(r);
+                answer.start();
+                answer.tell(r);
                 tellChosen();
             }
         }
@@ -402,8 +404,8 @@ public final class SetsStayTogether {
             bits |= 1 << room;
             stays += room == now ? 1 : 0;
         }
-        told.start();
-        told.tell(stays);
+        answer.start();
+        answer.tell(stays);
         return bits;
     }
 
@@ -423,8 +425,8 @@ public final class SetsStayTogether {
             all++;
             both += numberAt(walk.place, first) == numberAt(walk.place, second) ? 1 : 0;
         }
-        told.start();
-        told.tell(all);
+        answer.start();
+        answer.tell(all);
         return both;
     }
 
@@ -438,7 +440,7 @@ public final class SetsStayTogether {
         if (!chooseByBulk(room, 0, 1)) {
             return NOT_SO;
         }
-        told.start();
+        answer.start();
         tellChosen();
         return walk.value;
     }
@@ -455,8 +457,8 @@ public final class SetsStayTogether {
                 spare[t] = one;
             }
         }
-        told.start();
-        told.tell(home.carriedTo(spare));
+        answer.start();
+        answer.tell(home.carriedTo(spare));
         return home.lawful(spare) ? 1 : 0;
     }
 
@@ -472,8 +474,8 @@ public final class SetsStayTogether {
                 sold = walk.next() ? things : sold;
             }
         }
-        told.start();
-        told.tell(sold);
+        answer.start();
+        answer.tell(sold);
         return Integer.bitCount(sold);
     }
 
@@ -496,8 +498,8 @@ public final class SetsStayTogether {
         if (fewest == FAR) {
             return NOT_SO;
         }
-        told.start();
-        told.tell(room);
+        answer.start();
+        answer.tell(room);
         return fewest;
     }
 
@@ -513,10 +515,10 @@ public final class SetsStayTogether {
         if (steps < 0) {
             return NOT_SO;
         }
-        told.start();
+        answer.start();
         for (int left = steps - 1; left >= 0; left--) {
             at = home.firstNearer(girth, at, room, left);
-            told.tell(at);
+            answer.tell(at);
         }
         return steps;
     }
@@ -563,9 +565,9 @@ public final class SetsStayTogether {
         if (one == NONE) {
             return NOT_SO;
         }
-        told.start();
-        told.tell(other);
-        told.tell(most);
+        answer.start();
+        answer.tell(other);
+        answer.tell(most);
         return one;
     }
 
@@ -592,8 +594,8 @@ public final class SetsStayTogether {
         if (cost < 0) {
             return NOT_SO;
         }
-        told.start();
-        told.tell(home.lawful(goal) ? 1 : 0);
+        answer.start();
+        answer.tell(home.lawful(goal) ? 1 : 0);
         return cost;
     }
 
@@ -607,9 +609,9 @@ public final class SetsStayTogether {
         if (home.carriedTo(goal) < 0 || !turns.find(home, goal)) {
             return NOT_SO;
         }
-        told.start();
+        answer.start();
         for (int n = 0; n < turns.many; n++) {
-            told.tell(numberAt(turns.order, n));
+            answer.tell(numberAt(turns.order, n));
         }
         return turns.many;
     }
@@ -623,10 +625,10 @@ public final class SetsStayTogether {
         if (nights < 0) {
             return NOT_SO;
         }
-        told.start();
-        told.tell(journey.least);
+        answer.start();
+        answer.tell(journey.least);
         for (int t = 0; t < home.things; t++) {
-            told.tell(journey.roomAt(journey.next, home.clumpOf[t]));
+            answer.tell(journey.roomAt(journey.next, home.clumpOf[t]));
         }
         return nights;
     }
@@ -641,28 +643,30 @@ public final class SetsStayTogether {
             return NOT_SO;
         }
         int nights = journey.fewest(needed);
-        told.start();
-        told.tell(nights);
+        answer.start();
+        answer.tell(nights);
         return needed;
     }
 
     // ---- kept
 
     public boolean keep(int i) {
-        if (i < 0 || i >= shelf.length) {
+        Kept kept = keptAt(i);
+        if (kept == null) {
             return false;
         }
-        shelf[i].store(home, days, carried);
+        kept.store(home, days, carried);
         return true;
     }
 
     public boolean again(int i) {
-        if (i < 0 || i >= shelf.length || !shelf[i].suits(home)) {
+        Kept kept = keptAt(i);
+        if (kept == null || !kept.suits(home)) {
             return false;
         }
-        copy(shelf[i].where, home.where);
-        days = shelf[i].days;
-        carried = shelf[i].carried;
+        copy(kept.where, home.where);
+        days = kept.days;
+        carried = kept.carried;
         past.forget();
         return true;
     }
@@ -688,7 +692,7 @@ public final class SetsStayTogether {
             case 8:
                 return past.many;
             case 9:
-                return told.many;
+                return answer.many;
             case 10:
                 return text.length;
             case 11:
@@ -699,10 +703,10 @@ public final class SetsStayTogether {
     }
 
     public int row(int i) throws NoSuchElementException {
-        if (i < 0 || i >= told.many) {
+        if (i < 0 || i >= answer.many) {
             throw new NoSuchElementException("no such number in the row");
         }
-        return numberAt(told.numbers, i);
+        return numberAt(answer.numbers, i);
     }
 
     // ---- what several calls need
@@ -721,6 +725,10 @@ public final class SetsStayTogether {
         return (bits >> i & 1) == 1;
     }
 
+    private Kept keptAt(int i) {
+        return i >= 0 && i < shelf.length ? shelf[i] : null;
+    }
+
     /** What it costs to carry a THING there, or why that can't be. */
     private int attempt(int thing, int room, int[] place, int already) {
         if (!home.isThing(thing) || !home.isRoom(room)) {
@@ -730,7 +738,7 @@ public final class SetsStayTogether {
         if (cost < 0) {
             return NOT_SO;
         }
-        return already + cost > might ? TOO_MANY : cost;
+        return already + cost > might ? TOO_MUCH : cost;
     }
 
     private void bring(int thing, int room, int cost) {
@@ -779,7 +787,7 @@ public final class SetsStayTogether {
 
     private void tellChosen() {
         for (int t = 0; t < home.things; t++) {
-            told.tell(numberAt(walk.chosen, home.clumpOf[t]));
+            answer.tell(numberAt(walk.chosen, home.clumpOf[t]));
         }
     }
 
@@ -789,13 +797,13 @@ public final class SetsStayTogether {
         for (int t = 0; t < home.things; t++) {
             for (int r = 0; r < home.rooms; r++) {
                 int cost = home.cost(t, home.where[t], r);
-                walk.count(home.clumpOf[t], r, cost < 0 ? -FAR : -cost);
+                walk.add(home.clumpOf[t], r, cost < 0 ? -FAR : -cost);
             }
         }
         if (!walk.choose() || walk.value <= -FAR) {
             return NOT_SO;
         }
-        told.start();
+        answer.start();
         tellChosen();
         return -walk.value;
     }
@@ -805,7 +813,7 @@ public final class SetsStayTogether {
         walk.start(home, home.allClumps());
         walk.lessen(room, -more);
         for (int c = 0; c < home.clumps; c++) {
-            walk.count(c, room, each * home.clumpBulk(c));
+            walk.add(c, room, each * home.clumpBulk(c));
         }
         return walk.choose();
     }
@@ -816,8 +824,8 @@ public final class SetsStayTogether {
             return NO_AIM;
         }
         if (home.isNow(goal)) {
-            told.start();
-            told.tell(0);
+            answer.start();
+            answer.tell(0);
             return 0;
         }
         if (home.tooMany() || !journey.listLawful(home, walk)) {
@@ -880,7 +888,7 @@ public final class SetsStayTogether {
 
         /** The next sign; NONE at the end, and behind a fault, so that no reader goes on there. */
         int peek() {
-            return bad == NONE && at < stop ? text.at(at) : NONE;
+            return bad == NONE && at >= 0 && at < stop && at < text.signs.length ? text.signs[at] : NONE;
         }
 
         boolean goesOn() {
@@ -915,15 +923,14 @@ public final class SetsStayTogether {
         }
 
         int digit(int least, int bound) {
-            return among('0', least, bound);
+            return counted(peek() - '0', least, bound);
         }
 
         int letter(int least, int bound) {
-            return among('a', least, bound);
+            return counted(peek() - 'a', least, bound);
         }
 
-        private int among(int zero, int least, int bound) {
-            int value = peek() - zero;
+        private int counted(int value, int least, int bound) {
             if (value < least || value >= bound) {
                 fail(at);
                 return NONE;
@@ -1169,9 +1176,9 @@ public final class SetsStayTogether {
 
         private int oneStepFrom(int seen, int width) {
             int bits = seen;
-            for (int r = 0; r < rooms; r++) {
-                if (has(seen, r)) {
-                    bits |= nextTo(r, width);
+            for (int pair = 0; pair < door.length; pair++) {
+                if (has(seen, pair / ROOMS) && door[pair] >= width) {
+                    bits |= 1 << pair % ROOMS;
                 }
             }
             return bits;
@@ -1604,7 +1611,7 @@ public final class SetsStayTogether {
             }
         }
 
-        void count(int part, int room, int more) {
+        void add(int part, int room, int more) {
             if (part >= 0 && part < THINGS && room >= 0 && room < ROOMS) {
                 table[part * ROOMS + room] += more;
             }

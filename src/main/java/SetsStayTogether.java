@@ -1178,7 +1178,7 @@ public final class SetsStayTogether {
             int bits = seen;
             for (int pair = 0; pair < door.length; pair++) {
                 if (has(seen, pair / ROOMS) && door[pair] >= width) {
-                    bits |= 1 << pair % ROOMS;
+                    bits |= 1 << (pair % ROOMS);
                 }
             }
             return bits;
@@ -1803,7 +1803,8 @@ public final class SetsStayTogether {
     /** From evening to evening, by LAWFUL ARRANGEMENTS. */
     private static final class Journey {
         static final int MOST = 300;
-        final int[] list = new int[MOST * THINGS];
+        /** Three bits for the ROOM of each CLUMP. */
+        final int[] list = new int[MOST];
         final int[] costs = new int[THINGS * ROOMS * ROOMS];
         final int[] first = new int[MOST];
         final int[] nights = new int[MOST];
@@ -1822,8 +1823,9 @@ public final class SetsStayTogether {
                 if (many >= MOST) {
                     return false;
                 }
+                list[many] = 0;
                 for (int c = 0; c < clumps; c++) {
-                    list[many * THINGS + c] = walk.place[c];
+                    list[many] |= walk.place[c] << (3 * c);
                 }
                 many++;
             }
@@ -1844,7 +1846,7 @@ public final class SetsStayTogether {
         }
 
         int roomAt(int i, int clump) {
-            return numberAt(list, i * THINGS + clump);
+            return i >= 0 && i < many ? list[i] >> (3 * clump) & 7 : NONE;
         }
 
         private int find(House house, int[] goal) {

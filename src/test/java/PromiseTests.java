@@ -27,6 +27,7 @@ public final class PromiseTests {
         eveningsThatCome();
         daysTold();
         undoing();
+        undoingMany();
         judging();
         clumpsAndHeaviest();
         withoutBreaksTies();
@@ -670,6 +671,24 @@ public final class PromiseTests {
         x.sheet(3, 0, 0, 0);
         due("undo", x.undo(), 1);
         due("carried as ahead of it", x.count(5), 14);
+    }
+
+    private static void undoingMany() {
+        fresh("r9;r9;r9;d0-1=5;d1-2=5", "5,1,2@0;5,1,3@1;5,1,5@2");
+        int[][] before = new int[50][];
+        for (int i = 0; i < 50; i++) {
+            before[i] = new int[] {thing(0, 3), thing(1, 3), thing(2, 3), x.count(5)};
+            x.carry(i * i % 3, (i * 7 + i / 3) % 3);
+            due("kept", x.count(8), Math.min(20, i + 1));
+        }
+        for (int i = 49; i >= 30; i--) {
+            due("undo", x.undo(), i - 30);
+            for (int t = 0; t < 3; t++) {
+                due("where it was ahead of " + i, thing(t, 3), before[i][t]);
+            }
+            due("carried ahead of " + i, x.count(5), before[i][3]);
+        }
+        due("no more", x.undo(), NONE);
     }
 
     // ---- promise 17

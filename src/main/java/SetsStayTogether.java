@@ -761,16 +761,19 @@ public final class SetsStayTogether {
         if (text.length == 0) {
             return NONE;
         }
-        reader.letter(0, home.things);
-        reader.take('>');
-        reader.digit(0, 10);
+        readCarrying();
         for (int n = 0; n < DAY_SIGNS && reader.goesOn(); n++) {
             reader.take(';');
-            reader.letter(0, home.things);
-            reader.take('>');
-            reader.digit(0, 10);
+            readCarrying();
         }
         return reader.fault();
+    }
+
+    /** A THING or a ROOM that is not there can stand: such a carrying can't be done, which carry() tells. */
+    private void readCarrying() {
+        reader.letter(0, THINGS);
+        reader.take('>');
+        reader.digit(0, 10);
     }
 
     private int aimFault() {

@@ -602,8 +602,9 @@ public final class PromiseTests {
         rowIs(1, 2);
         due("days", x.count(4), 2);
         String[] faults = {
-            "x 0", "d>1 0", "A>1 0", "a 1", "a1 1", "a> 2", "a>b 2", "a>1; 4", "a>1;d>1 4", "a>12 3", "a>1,b>1 3", ";a>1 0",
-            "a>1;;b>1 4", "> 0",
+            "x 0", "k>1 0", "`>1 0", "A>1 0", "J>1 0", "a 1", "a1 1", "a> 2", "a>b 2", "a>1; 4", "a>1;k>1 4", "a>12 3",
+            "a>1,b>1 3", ";a>1 0", "a>1;;b>1 4", "> 0", "d 1", "j 1", "j1 1", "j> 2", "j>: 2", "a>1;d 5", "j>1; 4",
+            "d>7,a>1 3",
         };
         x.evening();
         int days = 3;
@@ -626,7 +627,39 @@ public final class PromiseTests {
         due("empty house", day(""), 0);
         rowIs(1, 0);
         due("days", x.count(4), 1);
-        due("no thing", day("a>0"), -1);
+        due("no things", day("a>0"), 0);
+        rowIs(NONE, 0);
+        due("no thing's letter", day("k>0"), -1);
+        due("no sign behind it", day("j"), -2);
+        due("no evening", x.count(4), 1);
+        daysOfThingsNotThere();
+    }
+
+    private static void daysOfThingsNotThere() {
+        fresh("r9;r9;d0-1=5", "5,1,2@0;5,1,3@0");
+        due("the first", day("c>1;a>1"), 0);
+        rowIs(NONE, 0);
+        due("nothing is carried", thing(0, 3), 0);
+        due("one ahead of it", day("a>1;j>1;b>1"), 1);
+        rowIs(NONE, 2);
+        due("carried", thing(0, 3), 1);
+        due("not carried", thing(1, 3), 0);
+        due("carried", x.count(5), 2);
+        due("to be undone", x.count(8), 1);
+        due("the last", day("a>1;a>0;c>7"), 2);
+        rowIs(NONE, 2);
+        due("no evening", x.count(4), 0);
+        due("carried", x.count(5), 4);
+        due("each letter", day("b>1;a>0;a>0;b>0;b>1;h>0;i>1;j>2;k>3"), -33);
+        rowIs(NONE, 2);
+        due("nothing is done", x.count(5), 4);
+        due("39 signs", day("c>0;d>1;e>2;f>3;g>4;h>5;i>6;j>7;c>8;d>9"), 0);
+        rowIs(NONE, 0);
+        due("40, one more", day(times("j>1;", 10) + "j>1"), -41);
+        due("here now", house("1,1,1@1"), 1);
+        due("it is there", day("c>0;b>1"), 2);
+        rowIs(1, 4);
+        due("evening", x.count(4), 1);
     }
 
     // ---- promise 16

@@ -1,5 +1,6 @@
 import java.util.NoSuchElementException;
 import java.util.function.IntSupplier;
+import java.util.function.IntUnaryOperator;
 
 /** What the tests by hand share: an object, texts for it, its state, and the sentence of the document that is asked about. */
 abstract class Asking {
@@ -64,10 +65,12 @@ abstract class Asking {
     }
 
     /** Each of these numbers is refused. */
-    static void refusedAll(String call, java.util.function.IntUnaryOperator ask, int... numbers) {
+    static void refusedAll(String call, IntUnaryOperator ask, int... numbers) {
+        String before = state() + x.count(10);
         for (int n : numbers) {
-            refused(call + " of " + n, () -> ask.applyAsInt(n));
+            is(call + " of " + n, ask.applyAsInt(n), NONE);
         }
+        is(call + " changes nothing", before.equals(state() + x.count(10)), true);
     }
 
     /** A text with a fault at p: it is emptied, and nothing else changes. */
@@ -79,7 +82,10 @@ abstract class Asking {
         is(text + " is emptied", x.count(10), 0);
     }
 
-    /** All that can be seen without a question that tells a ROW; THE TEXT aside. */
+    /**
+     * All that can be seen without a question that tells a ROW; THE TEXT aside. It asks so much that some objects are
+     * used for more than 512 calls here: the document leaves free what they answer then, this class answers as before.
+     */
     static String state() {
         StringBuilder all = new StringBuilder();
         for (int what = 0; what < 12; what++) {

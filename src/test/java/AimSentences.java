@@ -19,6 +19,7 @@ public final class AimSentences extends Asking {
         evenings();
         eveningsLeast();
         eveningsOfClumps();
+        eveningsAskedAgain();
         eveningsUnanswered();
         threeHundred();
         weakest();
@@ -319,6 +320,9 @@ public final class AimSentences extends Asking {
         stays("now", -5, x::queue);
         aim("012");
         stays("both, as it is", -5, x::queue);
+        says("42: (NOTES: -5 ahead of -2; else THE AIM that parts a SET would always be -2)");
+        aim("210");
+        stays("some THING does not get there, too", -5, x::queue);
         says("42: -4: no AIM");
         aim("");
         stays("no AIM", -4, x::queue);
@@ -452,6 +456,26 @@ public final class AimSentences extends Asking {
         rowIs(1, 1, 0, 2);
     }
 
+    private static void eveningsAskedAgain() {
+        says("43: (asked again, when CLUMPS are others)");
+        fresh("r9;r9;d0-1=9", "2,1,1@0;2,1,2@0;sab");
+        aim("11");
+        is("both", x.evenings(), 1);
+        rowIs(3, 1, 1);
+        x.breaks(0);
+        aim("01");
+        is("b alone", x.evenings(), 1);
+        rowIs(2, 0, 1);
+        is("weakest", x.weakest(), 2);
+        rowIs(1);
+        is("one more", house("1,1,1@1;sac"), 2);
+        aim("110");
+        stays("parted", -2, x::evenings);
+        aim("010");
+        is("b and c", x.evenings(), 1);
+        rowIs(3, 0, 1, 0);
+    }
+
     private static void eveningsUnanswered() {
         says("43: -2: it can't be (also if it is not LAWFUL)");
         fresh("r5;r9;r5;d0-1=5", "5,1,1@0;5,6,1@1");
@@ -478,6 +502,11 @@ public final class AimSentences extends Asking {
         aim("102345");
         stays("evenings", -3, x::evenings);
         stays("weakest", -3, x::weakest);
+        says("43: (NOTES: -3 ahead of -2)");
+        aim("000000");
+        stays("not LAWFUL", -3, x::evenings);
+        stays("not LAWFUL", -3, x::weakest);
+        says("43: (0, ahead of -2 and -3: it is as it is, LAWFUL or not)");
         aim("012345");
         is("it is as it is", x.evenings(), 0);
         rowIs(0);

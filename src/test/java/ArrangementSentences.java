@@ -113,6 +113,12 @@ public final class ArrangementSentences extends Asking {
         is("in all SETS", house("sa;sa;sa;sa;sa;sa;sa;sa"), 8);
         is("the only one", x.without(0), 0);
         rowIs(255);
+        says("20: (NOTES: a SET that has none left already would have none left, too)");
+        x.breaks(0);
+        is("another", house("1,1,1@0"), 1);
+        is("gone", x.without(1), 1);
+        rowIs(255);
+        fresh("r9", "1,1,1@0");
         says("20: NONE: none such");
         refusedAll("without", x::without, -1, 1, 9, 10, MAX, MIN);
     }
@@ -233,7 +239,11 @@ public final class ArrangementSentences extends Asking {
         refused("together", () -> x.together(0, 6));
         refused("together", () -> x.together(3, 3));
         refused("fullest", () -> x.fullest(6));
+        says("29: (NOTES: -3 counts the CLUMPS there are, not the new THING)");
+        fresh("r9;r9;r9;r9;r9;r9", "1,1,1@0;1,1,1@0;1,1,1@0;1,1,1@0;1,1,1@0");
+        is("6 to the power of 5", x.could(9, 0), 63);
         says("33: (no -3)");
+        fresh("r9;r9;r9;r9;r9;r9", "1,1,1@0;1,1,1@0;1,1,1@0;1,1,1@0;1,1,1@0;1,1,1@0");
         is("swap", x.swap(0, 1), 1);
         is("worth", x.worth(), 0);
     }

@@ -383,6 +383,9 @@ public final class DaySentences extends Asking {
         says("16: house() and again(), if they are not refused");
         is("house", house("d0-1=4;x"), -8);
         is("three", x.count(8), 3);
+        fault("x", 0, x::house);
+        fault("d0-0=1", 3, x::house);
+        is("three", x.count(8), 3);
         is("again", x.again(0) || x.again(2), false);
         is("three", x.count(8), 3);
         says("2: others change nothing of it");

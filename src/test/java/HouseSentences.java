@@ -480,6 +480,9 @@ public final class HouseSentences extends Asking {
         is("-998-1", valueOf("-998-1"), -999);
         is("only at the end", valueOf("999+999-999-900"), 99);
         is("only at the end", valueOf("999*999/999/9"), 111);
+        is("not in ( )", valueOf("(999*999)/999/9"), 111);
+        is("not in ( )", valueOf("(0-999-999)/(1-3)"), 999);
+        is("not what is compared", valueOf("999+2>999+1"), 1);
         says("Terms: As ints (they go round)");
         is("999^4", valueOf("999*999*999*999/999/999"), clamp(999 * 999 * 999 * 999 / 999 / 999));
         is("2^31", valueOf("512*512*512*16/512/512/512"), clamp(512 * 512 * 512 * 16 / 512 / 512 / 512));

@@ -300,7 +300,7 @@ public final class AimSentences extends Asking {
     }
 
     private static void queueUnanswered() {
-        fresh("r5;r5;r9;d0-1=5;d1-2=3", "5,4,1@0;5,1,1@1;1,1,1@1;sc");
+        fresh("r5;r6;r9;d0-1=5;d1-2=3", "5,4,1@0;5,1,1@1;1,1,1@1;sc");
         x.clumps();
         says("42: -2: there is none, or some THING does not get there");
         aim("101");

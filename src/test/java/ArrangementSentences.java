@@ -157,9 +157,12 @@ public final class ArrangementSentences extends Asking {
         is("two like ones: neither alone", x.ties(), 0);
         is("house", house("sbc"), 1);
         is("another", x.ties(), 16);
+        is("house", house("scd"), 1);
+        is("two", x.ties(), 16 | 32);
+        x.breaks(3);
         is("house", house("sac"), 1);
         is("round", x.ties(), 0);
-        is("house", house("sc;scd"), 2);
+        is("house", house("sad"), 1);
         is("the last", x.ties(), 128);
         x.breaks(3);
         is("not so any more", x.ties(), 0);
@@ -521,6 +524,7 @@ public final class ArrangementSentences extends Asking {
     private static void sell() {
         says("34: 0: none has to be");
         freshFive();
+        x.evening();
         is("none", x.sell(), 0);
         rowIs(0);
         fresh("r9");
@@ -586,6 +590,7 @@ public final class ArrangementSentences extends Asking {
         rowIs(2);
         says("35: (0: none); the ROW: (NONE for 0)");
         freshFive();
+        x.evening();
         is("none", x.build(), 0);
         rowIs(NONE);
         fresh("r5");

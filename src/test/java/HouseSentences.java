@@ -534,6 +534,7 @@ public final class HouseSentences extends Asking {
         is("size", room(0, 0) + room(3, 0) * 100, 910);
         says("6: 1: THINGS in it (bits)");
         is("things", room(0, 1) * 100 + room(1, 1) * 10 + room(2, 1), 34);
+        is("none", room(0, 1), 0);
         says("6: 2: how much SIZE is free (below 0: it is too full)");
         is("empty", room(0, 2), 10);
         is("too full", room(1, 2), -1);

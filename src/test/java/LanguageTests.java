@@ -35,6 +35,7 @@ public final class LanguageTests {
             }
         }
         sizes(lines);
+        madeOnce(all);
         System.out.println(wrong == 0 ? "the language is kept, as far as is seen here" : wrong + " faults");
         if (wrong != 0) {
             System.exit(1);
@@ -44,6 +45,16 @@ public final class LanguageTests {
     private static void bad(String what) {
         wrong++;
         System.out.println(what);
+    }
+
+    /** All calls of one run share a room for objects: they are made with their owner, but for what is thrown. */
+    private static void madeOnce(String all) {
+        for (String line : all.split("\n")) {
+            boolean field = line.matches(" {4}(private | {4})(static )?final .*=.*");
+            if (line.matches(".*\\bnew\\b.*") && !field && !line.contains("throw new NoSuchElementException(\"")) {
+                bad("made by a call: " + line.trim());
+            }
+        }
     }
 
     private static void sizes(List<String> lines) {
